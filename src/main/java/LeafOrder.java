@@ -445,9 +445,6 @@ public final class LeafOrder {
         }
 
         private int leastOf(int set) {
-            if (set == 0) {
-                return 0;
-            }
             int cost = FAR;
             for (int stand = 0; stand < 2 * count; stand++) {
                 if ((set >> (stand >> 1) & 1) != 0) {
