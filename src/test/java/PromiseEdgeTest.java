@@ -35,6 +35,7 @@ public final class PromiseEdgeTest {
         joinNoSuchLeaves();
         joinTheSame();
         joinTurned();
+        bestAfterEachChange();
         bestNone();
         atPlaces();
         atMissing();
@@ -428,6 +429,31 @@ public final class PromiseEdgeTest {
         DUE.is("both may be", x.join(0, true, 1, true), 10);
     }
 
+    private static void bestAfterEachChange() {
+        DUE.sentence("10: THE BEST's COST.");
+        LeafOrder x = State.alike(1);
+        DUE.is("one leaf", x.best(), 0);
+        x.leaf(50, 0, 50, 0);
+        x.must(0, 1, true, true);
+        DUE.is("a second one, joined", x.best(), 50);
+        x.catchword(0, 1, 0);
+        x.catchword(0, 0, 0);
+        DUE.is("catchwords", x.best(), 70);
+        x.cut(0, 1, 0, 1);
+        x.cut(0, 0, 0, 1);
+        DUE.is("cuts", x.best(), 80);
+        x.weights(9, 9, 99, 99, 99, 0);
+        DUE.is("weights", x.best(), 450 + 99 + 99);
+        for (int k = 0; k < 3; k++) {
+            x.stain(0, k, 99);
+        }
+        DUE.is("stains", x.best(), 450 + 99 + 99 + 27 * 99);
+        x.weights(9, 9, 99, 99, 99, 999);
+        DUE.is("a gap", x.best(), 999);
+        x.must(1, 0, false, true);
+        DUE.is("bound", x.best(), -1);
+    }
+
     private static void bestNone() {
         DUE.sentence("10: NONE: there is no ORDER.");
         for (int leaves = 2; leaves <= 9; leaves++) {
@@ -438,6 +464,13 @@ public final class PromiseEdgeTest {
             x.must(1, 0, false, false);
             DUE.is("freed", x.best(), 0);
         }
+        LeafOrder fork = State.chain(9);
+        fork.must(0, 8, true, true);
+        fork.must(1, 8, true, true);
+        DUE.is("one right behind two", fork.best(), -1);
+        fork.must(1, 8, true, false);
+        fork.must(0, 7, true, true);
+        DUE.is("two right behind one", fork.best(), -1);
         LeafOrder ring = State.chain(9);
         for (int k = 0; k < 9; k++) {
             ring.must(k, (k + 1) % 9, true, true);

@@ -415,6 +415,14 @@ public final class TermsEdgeTest {
         DUE.is("in leaves", x.next(), 0);
         x.must(1, 0, false, true);
         DUE.is("there is no other again", x.next(), -1);
+        LeafOrder y = State.chain(3);
+        y.weights(1, 0, 20, 10, 7, 0);
+        DUE.is("the first turned, or the last", y.next(), 5 + 7);
+        y.must(0, 1, true, true);
+        y.must(1, 2, true, true);
+        y.catchword(0, 0, 11);
+        y.cut(2, 1, 1, 0);
+        DUE.is("the first, the middle or the last turned", y.next(), 10 + 7);
     }
 
     private static void sureWithin() {
@@ -429,6 +437,14 @@ public final class TermsEdgeTest {
         x.weights(0, 0, 0, 0, 0, 0);
         DUE.is("alike, 1 0 is the best", x.sure(1, 0, 0), 0);
         DUE.is("alike, 0 1 is not", x.sure(0, 1, 0), 0);
+        LeafOrder y = State.chain(3);
+        DUE.is("another is right behind 0", y.sure(0, 2, 0), 0);
+        DUE.is("2 is right behind another", y.sure(2, 1, 0), 0);
+        // 0 1 2 with leaf 0 turned costs 25 then, and 1 0 2 costs 30.
+        y.weights(1, 0, 20, 10, 20, 0);
+        DUE.is("an order that differs in how they stand", y.next(), 25);
+        DUE.is("does not make it unsure", y.sure(0, 1, 25), 1);
+        DUE.is("one with other neighbours does", y.sure(0, 1, 30), 0);
     }
 
     private static void neitherEmpty() {
