@@ -18,6 +18,7 @@ public final class FaceTest {
         members();
         privateNames();
         fields();
+        sizes();
         source();
         DUE.end();
     }
@@ -101,11 +102,32 @@ public final class FaceTest {
         DUE.yes("at most twenty fields", own <= 20);
     }
 
+    private static void sizes() {
+        Class<?>[] insides = LeafOrder.class.getDeclaredClasses();
+        DUE.yes("at most twelve classes", insides.length < 12);
+        parameters(LeafOrder.class);
+        for (Class<?> inside : insides) {
+            parameters(inside);
+            DUE.is(inside + " has no classes of its own", inside.getDeclaredClasses().length, 0);
+            DUE.yes(inside + " has at most twenty fields", inside.getDeclaredFields().length <= 20);
+            for (Field f : inside.getDeclaredFields()) {
+                DUE.no(f + " is static", Modifier.isStatic(f.getModifiers()));
+            }
+        }
+    }
+
+    private static void parameters(Class<?> type) {
+        for (Method m : type.getDeclaredMethods()) {
+            DUE.yes(m + " takes at most seven", m.getParameterCount() <= 7);
+        }
+    }
+
     private static void source() throws IOException {
         String text = Files.readString(SOURCE).replaceAll("(?s)/\\*.*?\\*/", "")
                 .replaceAll("//[^\n]*", "");
-        String[] barred = {"package", "throw", "throws", "try", "catch", "synchronized", "assert",
-            "native", "volatile", "Thread", "Random", "Object", "hashCode", "\\w+Exact", "->", "::"};
+        String[] barred = {"package", "import", "throw", "throws", "try", "catch", "synchronized",
+            "assert", "native", "volatile", "Thread", "Random", "Object", "hashCode", "\\w+Exact",
+            "->", "::"};
         for (String word : barred) {
             String bounds = Character.isLetter(word.charAt(0)) || word.startsWith("\\w")
                     ? "\\b" + word + "\\b" : Pattern.quote(word);
